@@ -1505,7 +1505,7 @@ public final class HouseClearedUp {
                 return -a;
             }
             if (kind == NOT) {
-                return 1 - a;
+                return a == 0 ? 1 : 0;
             }
             return a >= 0 && a < told.lots ? told.worth[a] : 0;
         }

@@ -298,6 +298,12 @@ public final class PromisesTest {
         faulty("week;", 1, 4);
         faulty("worth 1;", 1, 0);
         faulty("7;", 1, 0);
+        faulty(times(";", 300), 1, 0);
+        faulty(times("\u00ff", 300), 1, 0);
+        faulty("bids " + times("1+", 147) + "1", 1, 300);
+        sound("bids" + times("1+", 147) + "1;");
+        sound(times(" ", 300));
+        faulty("bids " + times("1", 295), 2, 5);
     }
 
     private static void laws() {
@@ -313,6 +319,11 @@ public final class PromisesTest {
             {"if 2#2 then 3 else 4 end", "4"}, {"if not 2#2 then 3 else 4 end", "3"},
             {"if 1=1 or 1=2 and 1=2 then 3 else 4 end", "3"}, {"if 1=2 and 1=1 or 1=2 then 3 else 4 end", "4"},
             {"if not 1=2 and 1=2 then 3 else 4 end", "4"}, {"if not not 1=1 then 3 else 4 end*2", "6"},
+            {"if not 2=2 then 3 else 4 end", "4"}, {"if not 1<2 then 3 else 4 end", "4"},
+            {"if not 2>1 then 3 else 4 end", "4"}, {"if not 1#2 then 3 else 4 end", "4"},
+            {"if not 2<=2 then 3 else 4 end", "4"}, {"if not 2>=2 then 3 else 4 end", "4"},
+            {"if 3<=2 then 3 else 4 end", "4"}, {"if 1>=2 then 3 else 4 end", "4"},
+            {"1+1*" + times("if1=1or1=1and1=1+1*", 8) + "1" + times("then1else1end ", 8), "2"},
             {"if 1=2 then 1 else if 1=1 then 2 else 3 end end", "2"},
             {"week", "0"}, {"floor", "0"}, {"worth", "20"}, {"weight", "3"}, {"lot", "0"}, {"-5", "0"}};
         for (String[] s : sums) due("reserve " + s[0], ruled("reserve " + s[0] + ";").of(0, 4), Integer.parseInt(s[1]));
@@ -611,6 +622,13 @@ public final class PromisesTest {
         x.want(0, 0, 95);
         x.week(1);
         due("99 at most", x.bids(0, 0), 99);
+        x = ruled("reserve 999;warms 1;");
+        x.week(1);
+        due("a draw of 1 isn't below 1", x.bids(1, 0), 30);
+        x = ruled("reserve 999;warms 2;");
+        x.week(1);
+        due("a draw of 1 is below 2", x.bids(1, 0), 35);
+        due("the other's stays", x.bids(0, 0), 40);
         x = new HouseClearedUp();
         for (int i = 0; i < 166; i++) x.week(60);
         due("is(0)", x.is(0), 9960);
@@ -620,6 +638,7 @@ public final class PromisesTest {
         due("is(0) then", x.is(0), 9999);
         due("none any more", x.week(1), -1);
         due("floor", x.is(3), 5);
+        due("nor by years", x.years(0, 40), 9999);
         x.lot(5, 0, 1);
         due("foretold there", x.foretold(5, 1, 0), 0);
     }
@@ -654,6 +673,23 @@ public final class PromisesTest {
         due("a 13th lot", x.played(0), 0);
         read(x, "want 1 of 11 by 4;want 1 of 0 by 0;");
         due("wants", x.played(1), -1);
+        read(x, "want 2 of 3 by 1;buy 4 for 20;");
+        due("buy of one in the house", x.played(2), 1);
+        due("the second bidder", x.bids(1, 3), 2);
+        due("nobody else", x.bids(2, 3) + x.bids(3, 1) + x.bids(1, 2), 0);
+        x = small();
+        x.lot(3, 0, 1);
+        x.lot(3, 90, 1);
+        read(x, "want 0 of 1 by 0;sell 0;sell 1;buy 1 for 21;buy 0 for 1;");
+        due("lot, price", x.played(0), 4);
+        due("takings", x.is(1), 9);
+        due("lot 1 is back", x.of(1, 3), 1);
+        read(x, "lot 4 worth 5 weight 6;bidder 7;");
+        x.played(1);
+        due("floor", x.of(3, 0), 4);
+        due("worth", x.of(3, 1), 5);
+        due("weight", x.of(3, 2), 6);
+        due("purse", x.ofBidder(2, 0), 7);
         x = new HouseClearedUp();
         read(x, "want 1 of 0 by 0;");
         due("want without lots", x.played(0), 0);
@@ -969,6 +1005,20 @@ public final class PromisesTest {
         due("first 1", y.order(3, 0), 1);
         due("then 0", y.order(3, 1), 0);
         due("nothing changed", y.about(4) + y.is(1) + y.of(0, 3) + y.of(1, 3), 0);
+        // the second bidder wins one, and then bids less for the other
+        HouseClearedUp w = ruled("bids want-has*20;");
+        w.lot(0, 0, 1);
+        w.want(0, 0, 30);
+        w.want(1, 0, 40);
+        w.want(0, 1, 10);
+        w.want(1, 1, 50);
+        // 0 then 1: 30, then 30 against 10: 10; 1 then 0: 10, then 20 against 30: 20
+        due("0 first", w.order(3, -1), 40);
+        due("0 first", w.order(3, 0), 0);
+        w.want(0, 1, 45);
+        // 0 then 1: 30, then 30 against 45: 30; 1 then 0: 45, then 20 against 30: 20
+        due("1 first", w.order(3, -1), 65);
+        due("1 first", w.order(3, 0), 1);
         HouseClearedUp z = new HouseClearedUp();
         z.lot(0, 50, 1);
         due("without bidders nothing is had", z.order(1, -1), 0);
@@ -1111,6 +1161,8 @@ public final class PromisesTest {
         due("climb(6, 6)", x.climb(6, 6), -1);
         due("climb(-1, 0)", x.climb(-1, 0), -1);
         due("climb(0, HIGH)", x.climb(0, HIGH), -1);
+        due("climb(0, 32)", x.climb(0, 32), -1);
+        due("climb(32, 0)", x.climb(32, 0), -1);
         x.stair(0, 4);
         due("climb(0, 3)", x.climb(0, 3), 2);
         x.gone(2, 3);
@@ -1206,6 +1258,7 @@ public final class PromisesTest {
         due("20 of 30", x.takes(2, 2), 0);
         due("30 of 30", x.takes(2, 3), 1);
         due("none any more", x.takes(0, 0), 1);
+        due("level 5", x.takes(6, 5), 1);
         due("the most", x.takes(6, 4), 1);
         due("30 of 39.375", x.takes(6, 3), 0);
     }
@@ -1271,6 +1324,7 @@ public final class PromisesTest {
         due("none any more", x.said(-1, 99), 0);
         due("about(6)", x.about(6), 0);
         due("said(0, 10)", x.said(0, 10), 1);
+        due("said(0, 0)", x.said(0, 0), 2);
     }
 
     private static void whose() {
@@ -1308,6 +1362,12 @@ public final class PromisesTest {
         due("without bidders", x.dearest(), -1);
         x.bidder(100);
         due("for nothing", x.dearest(), -1);
+        x.bidder(1);
+        x.want(0, 0, 1);
+        due("for nothing", x.dearest(), -1);
+        x.want(1, 0, 1);
+        due("for 1", x.dearest(), 0);
+        x.want(1, 0, 0);
         x.lot(5, 20, 1);
         x.want(0, 1, 10);
         x.lot(0, 21, 1);
