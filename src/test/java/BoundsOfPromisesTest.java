@@ -158,6 +158,19 @@ public final class BoundsOfPromisesTest {
                 due("fault(1)", x.fault(1), n > 9 ? 9 : -1);
             }
         });
+        Bounds.sentence("6: alone: what was behind them is not read", () -> {
+            String[] whole = {"week 100;", "week 1; ;", "sells 0;", "bids if 1<=2 then 3 else 4 end;"};
+            int[] n = {6, 8, 4, 10};
+            int[] place = {6, -1, 4, 10};
+            for (int i = 0; i < whole.length; i++) {
+                HouseClearedUp x = new HouseClearedUp();
+                Bounds.feed(x, whole[i]);
+                x.end(n[i]);
+                due("text of " + whole[i].substring(0, n[i]), x.text(), place[i] < 0 ? 0 : -1);
+                due("fault(0)", x.fault(0), place[i] < 0 ? 0 : 1);
+                due("fault(1)", x.fault(1), place[i]);
+            }
+        });
         Bounds.sentence("6: NONE, and nothing is done, if it has not so many, or n is below 0", () -> {
             // the tape of the house that was lived in has 16 bytes
             due("bytes", Bounds.lived().about(7), 16);
@@ -366,6 +379,11 @@ public final class BoundsOfPromisesTest {
                 due("sell(" + lot + ")", y.sell(lot), price);
                 due("where", y.of(lot, 3), 3 + who);
             }
+            HouseClearedUp two = Bounds.one(0, 20, 12, 11);
+            two.lot(0, 40, 1);
+            two.want(1, 1, 30);
+            int[][] asked = {{0, 7, 11}, {1, 7, 20}, {0, 6, 0}, {1, 6, 1}, {0, 7, 11}, {1, 6, 1}, {0, 6, 0}, {1, 7, 20}};
+            for (int[] a : asked) due("each by itself, of(" + a[0] + ", " + a[1] + ")", two.of(a[0], a[1]), a[2]);
             HouseClearedUp none = Bounds.one(0, 20, 9);
             due("nobody", none.of(0, 6), -1);
             due("nobody", none.of(0, 7), -1);

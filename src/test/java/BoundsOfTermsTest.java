@@ -605,6 +605,7 @@ public final class BoundsOfTermsTest {
             HouseClearedUp x = Bounds.one(0, 20, 30, 20);
             x.sell(0);
             x.lot(0, 40, 2);
+            x.lot(4, 40, 2);
             x.bidder(70);
             x.want(2, 1, 60);
             x.want(0, 0, 11);
@@ -616,14 +617,27 @@ public final class BoundsOfTermsTest {
             due("lot 1", x.of(1, 3), 0);
             due("undo", x.undo(), 0);
             due("lot 0", x.of(0, 3), 0);
-            due("lots", x.about(0), 2);
+            due("lots", x.about(0), 3);
             due("floor", x.of(1, 0), 0);
+            due("floor", x.of(2, 0), 4);
             due("purse", x.ofBidder(2, 0), 70);
             due("purse as ahead", x.ofBidder(0, 0), 500);
             due("want of the new", x.bids(2, 1), 60);
             due("want told anew", x.bids(0, 0), 11);
             due("want as ahead", x.bids(1, 0), 20);
             due("text", x.about(3), 0);
+            // told behind all 30, and taken back behind all
+            HouseClearedUp y = new HouseClearedUp();
+            y.week(35);
+            y.lot(3, 5, 1);
+            y.bidder(66);
+            y.want(0, 0, 33);
+            for (int i = 29; i >= 0; i--) {
+                due("undo", y.undo(), i);
+                due("floor", y.of(0, 0), 3);
+                due("purse", y.ofBidder(0, 0), 66);
+                due("want", y.bids(0, 0), 33);
+            }
         });
         Bounds.sentence("STAIRS stay", () -> {
             HouseClearedUp x = Bounds.one(0, 0);
@@ -721,26 +735,32 @@ public final class BoundsOfTermsTest {
             x.bidder(9);
             for (int i = 0; i < 5; i++) due("all like: the " + i + "th", x.order(31, i), i);
             for (int i = 0; i < 3; i++) due("of 4, 2, 1: the " + i + "th", x.order(22, i), new int[] {1, 2, 4}[i]);
-            // one purse: what comes second is bid for with what is left
-            HouseClearedUp y = Bounds.one(0, 0, 50, 30);
-            y.lot(0, 0, 1);
-            y.lot(0, 0, 1);
-            Bounds.ruledBy(y, "bids if who=0 then 40-has*lot else 30 end;");
-            // lot 0 never matters where it comes last for what it brings, lots 1 and 2 are worth less behind another
-            int best = -1;
-            String first = "";
-            int[][] orders = {{0, 1, 2}, {0, 2, 1}, {1, 0, 2}, {1, 2, 0}, {2, 0, 1}, {2, 1, 0}};
-            for (int[] o : orders) {
-                int had = 0, sum = 0;
-                for (int lot : o) {
-                    int bid = 40 - had * lot;
-                    sum += Math.min(bid, 30);
-                    if (bid >= 30) had++;
+        });
+        Bounds.sentence("the order by which PRICES together are most", () -> {
+            // bidder 0 bids less by what it has, bidder 1 the same always; lot 2 has a reserve that is bid for first alone
+            String[] laws = {"bids if who=0 then 40-has*lot*9 else 30-has*lot*5 end;", "bids if who=0 then 40-has*(3-lot)*9 else 20 end;reserve if lot=2 then 35 else 0 end;",
+                "bids if who=1 then 10-has*(lot+1) else 8 end;", "bids want-has*7;", "reserve 25;"};
+            for (String law : laws) {
+                HouseClearedUp x = new HouseClearedUp();
+                int[][] wants = {{50, 20, 45}, {35, 22, 40}};
+                for (int lot = 0; lot < 3; lot++) x.lot(0, 0, 1);
+                for (int b = 0; b < 2; b++) x.bidder(b == 0 ? 60 : 45);
+                for (int b = 0; b < 2; b++) for (int lot = 0; lot < 3; lot++) x.want(b, lot, wants[b][lot]);
+                Bounds.ruledBy(x, law);
+                int best = -1;
+                int[] first = {};
+                for (int[] o : new int[][] {{0, 1, 2}, {0, 2, 1}, {1, 0, 2}, {1, 2, 0}, {2, 0, 1}, {2, 1, 0}}) {
+                    int sum = 0;
+                    for (int lot : o) sum += Math.max(0, x.sell(lot));
+                    for (int k = 0; k < 3; k++) x.undo();
+                    if (sum > best) {
+                        best = sum;
+                        first = o;
+                    }
                 }
-                if (sum > best) { best = sum; first = "" + o[0] + o[1] + o[2]; }
+                due("together by " + law, x.order(7, -1), best);
+                for (int k = 0; k < 3; k++) due("the " + k + "th by " + law, x.order(7, k), first[k]);
             }
-            due("together", y.order(7, -1), best);
-            for (int i = 0; i < 3; i++) due("the " + i + "th", y.order(7, i), first.charAt(i) - '0');
         });
         Bounds.sentence("ORDER: PRICES together, the i-th", () -> {
             HouseClearedUp x = twelve();
@@ -753,6 +773,13 @@ public final class BoundsOfTermsTest {
                 due("far below", x.order(set, Bounds.LOW), -2);
             }
             due("what is passed in brings nothing", Bounds.one(0, 20, 9).order(1, -1), 0);
+            HouseClearedUp some = new HouseClearedUp();
+            for (int lot = 0; lot < 5; lot++) some.lot(0, lot % 2 == 0 ? 20 : 0, 1);
+            some.bidder(50);
+            some.bidder(50);
+            for (int lot = 0; lot < 5; lot++) for (int b = 0; b < 2; b++) some.want(b, lot, 9);
+            due("those that aren't", some.order(31, -1), 18);
+            for (int lot = 0; lot < 5; lot++) due("all have a place in it", some.order(31, lot), lot);
             due("nor without bidders", Bounds.one(0, 0).order(1, -1), 0);
         });
     }
@@ -791,6 +818,13 @@ public final class BoundsOfTermsTest {
             due("together", x.winners(true), 12);
             x.bundle(1, 4, 1);
             due("another's", x.winners(false), 6);
+            for (int b = 0; b < 5; b++) {
+                HouseClearedUp y = Bounds.full();
+                y.bundle(-1, 0, 0);
+                y.bundle(b, 1, 10);
+                y.bundle(b, 2, 11);
+                due("bidder " + b + " is not twice", y.winners(false), 2);
+            }
             HouseClearedUp all = Bounds.full();
             all.bundle(-1, 0, 0);
             for (int b = 0; b < 5; b++) all.bundle(b, 1 << b, 9999);
@@ -1079,6 +1113,11 @@ public final class BoundsOfTermsTest {
             due("of 3", x.ash(3, 3), 0);
             due("in all", x.burnt(2, 2, true), 12);
             due("in none of those that could be", x.burnt(0, 0, false), 12);
+            x.sell(3);
+            due("as now: of 1", x.ash(1, 1), 1);
+            due("as now: in none of those that could be", x.burnt(0, 0, false), 4);
+            x.undo();
+            due("as now: in none of those that could be", x.burnt(0, 0, false), 12);
         });
         Bounds.sentence("just so many, WEIGHTS together just that", () -> {
             HouseClearedUp x = new HouseClearedUp();
@@ -1403,6 +1442,29 @@ public final class BoundsOfTermsTest {
                 y.by(0);
                 return y.back();
             }, 31);
+            Bounds.asNow("others in their place", Bounds::lived, y -> {
+                y.image();
+                y.bundle(-1, 0, 0);
+                y.bundle(2, 48, 900);
+                y.bundle(2, 16, 800);
+                y.bundle(0, 8, 700);
+                y.said(-1, 0);
+                y.said(5, 6);
+                y.said(4, 5);
+                for (int i = 0; i < 6; i++) y.undo();
+                y.sell(5);
+                y.sell(4);
+                return y.back();
+            }, 1);
+            HouseClearedUp said = twelve();
+            Bounds.read(said, "warms lot;");
+            said.said(3, 3);
+            said.image();
+            said.said(-1, 0);
+            said.said(5, 3);
+            due("not its law", said.whose(), 0);
+            said.back();
+            due("said as it was", said.whose(), 1);
             Bounds.asNow("without an image the empty house", HouseClearedUp::new, y -> {
                 changeAll(y);
                 return y.back();

@@ -44,9 +44,18 @@ public final class BoundsOfTextsTest {
                 faulty("bids 1" + " ".repeat(length - 6), 1, length);
                 faulty(" ".repeat(length - 1) + "x", 1, length - 1);
             }
+            faulty(";".repeat(300), 1, 0);
+            faulty("bids " + "1-".repeat(147) + "1", 1, 300);
+            faulty("bids " + "0".repeat(295), 1, 300);
+            faulty(" ".repeat(296) + "bids", 1, 300);
+            faulty("bids if" + " ".repeat(291) + "1<", 1, 300);
             HouseClearedUp x = Bounds.one(0, 0);
+            // what was read ahead of it leaves no room the less
+            for (int i = 0; i < 3; i++) due("a faulty one", Bounds.read(x, "bids " + "1-".repeat(147) + "1"), -1);
             Bounds.ruledBy(x, "reserve " + "1+".repeat(145) + "1;");
             due("a sum as long as it can be", x.of(0, 4), 146);
+            Bounds.ruledBy(x, "reserve " + "1+".repeat(144) + "9;");
+            due("and once more", x.of(0, 4), 153);
             Bounds.ruledBy(x, "reserve" + " ".repeat(288) + "123" + " ;");
             due("a number at the end", x.of(0, 4), 123);
         });
@@ -487,6 +496,8 @@ public final class BoundsOfTextsTest {
             due("the last lot", x.of(0, 4), 77);
             x.burn(11);
             due("wherever it is", x.of(0, 4), 77);
+            Bounds.ruledBy(x, "reserve 5+worths 12;");
+            due("beyond the last of twelve", x.of(0, 4), 5);
         });
         Bounds.sentence("what is above 1000000 (below the same less) is that, at each step", () -> {
             // 1000000 is 9999 * 100 + 100
@@ -603,6 +614,15 @@ public final class BoundsOfTextsTest {
             due("lot", x.of(1, 4), 11);
             x.week(7);
             due("week", x.of(0, 5), 7);
+            HouseClearedUp y = ruled("bids want*10+has;");
+            y.want(1, 1, 70);
+            y.want(0, 1, 60);
+            int[][] bids = {{400, 600}, {300, 700}};
+            for (int b = 0; b < 2; b++) for (int lot = 0; lot < 2; lot++) due("want", y.bids(b, lot), bids[b][lot]);
+            y.sell(0);
+            y.sell(1);
+            due("lot 0 is with bidder 0", y.bids(0, 1), 601);
+            due("lot 1 is with bidder 1", y.bids(1, 1), 701);
             due("purse", ruled("bids purse/2;").bids(0, 0), 4999);
             due("worth", ruled("bids worth;").bids(0, 1), 99);
         });
@@ -631,6 +651,30 @@ public final class BoundsOfTextsTest {
                 Bounds.read(y, "bids 1;reserve 2;warms 3;");
                 return y;
             }, y -> y.played(2), -1);
+        });
+        Bounds.sentence("buy NUMBER for NUMBER ; (LOT, PRICE)", () -> {
+            for (int price = 29; price <= 32; price++) {
+                HouseClearedUp x = Bounds.one(0, 98, 0);
+                for (int i = 0; i < 2; i++) x.lot(0, 62, 1);
+                for (int i = 1; i < 3; i++) x.want(0, i, 40);
+                x.sell(2);
+                x.want(0, 2, 30);
+                Bounds.read(x, "buy 2 for " + price + ";");
+                boolean can = price == 30 || price == 31;
+                due("played for " + price, x.played(0), can ? -1 : 0);
+                due("where", x.of(2, 3), can ? 1 : 3);
+                due("takings", x.is(1), can ? 31 - price : 31);
+            }
+        });
+        Bounds.sentence("want NUMBER of NUMBER by NUMBER ; (WANT, LOT, BIDDER)", () -> {
+            HouseClearedUp y = new HouseClearedUp();
+            for (int i = 0; i < 12; i++) y.lot(0, 0, 1);
+            for (int i = 0; i < 5; i++) y.bidder(500);
+            Bounds.read(y, "want 99 of 11 by 4;want 7 of 0 by 0;want 2 of 3 by 1;");
+            due("played", y.played(0), -1);
+            for (int b = 0; b < 5; b++) {
+                for (int lot = 0; lot < 12; lot++) due("bids", y.bids(b, lot), b == 4 && lot == 11 ? 99 : b + lot == 0 ? 7 : b == 1 && lot == 3 ? 2 : 0);
+            }
         });
         Bounds.sentence("(a sale that is passed in isn't one that can't be)", () -> {
             HouseClearedUp x = Bounds.one(0, 20, 9);
