@@ -116,13 +116,23 @@ public final class BoundsOfTermsTest {
         Bounds.sentence("TAKINGS 0 .. 99999 (at first 0)", () -> {
             HouseClearedUp x = Bounds.empty();
             due("at first", x.is(1), 0);
-            // the most there can be: four pay all for what the others bid too, the fifth pays reserves
+            // more than five full purses can't come in: here all of it does
             for (int i = 0; i < 12; i++) x.lot(0, 0, 1);
             for (int i = 0; i < 5; i++) x.bidder(9999);
-            Bounds.ruledBy(x, "bids 9999;reserve 999;");
-            for (int i = 0; i < 12; i++) due("price", x.sell(i), i < 4 ? 9999 : 999);
-            due("takings", x.is(1), 4 * 9999 + 8 * 999);
-            due("the fifth's purse", x.ofBidder(4, 0), 9999 - 8 * 999);
+            Bounds.ruledBy(x, "bids if lot=3 then 5000 else if lot=5 then 4999 else 9999 end end;"
+                + "reserve if lot=11 then 5 else if lot>5 then 999 else 0 end end;");
+            int[] prices = {9999, 9999, 9999, 5000, 4999, 4999, 999, 999, 999, 999, 999, 5};
+            int[] winners = {0, 1, 2, 3, 4, 3, 4, 4, 4, 4, 4, 4};
+            int sum = 0;
+            for (int i = 0; i < 12; i++) {
+                due("price", x.sell(i), prices[i]);
+                due("where", x.of(i, 3), 3 + winners[i]);
+                sum += prices[i];
+                due("takings", x.is(1), sum);
+            }
+            due("all of it", sum, 5 * 9999);
+            for (int b = 0; b < 5; b++) due("purse", x.ofBidder(b, 0), 0);
+            due("by the book", x.ledger(-1), 5 * 9999);
         });
         Bounds.sentence("WEEK 0 .. 9999 (at first 0)", () -> {
             due("at first", Bounds.empty().is(0), 0);
